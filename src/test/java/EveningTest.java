@@ -224,6 +224,7 @@ public final class EveningTest {
 
     private static void aYearClears() {
         EachBrings x = Checks.village("house 3 3 3 3 1;house 3 3 3 3 1;");
+        x.brings(0, 0);
         x.evening();
         x.eat(0);
         x.ill(0, 1);
@@ -245,6 +246,14 @@ public final class EveningTest {
         C.due("evening()", x.evening(), 2);
         C.due("eat(1)", x.eat(1), 2);
         C.due("ill(0, 1) is news", x.ill(0, 1), 1);
+        // What was left is gone, of each sort.
+        x = Checks.village("house 1 0 0 0 1;house 0 1 0 0 1;house 0 0 1 0 1;house 0 0 0 1 1;pride 9;");
+        x.evening();
+        x.eat(0);
+        x.year();
+        for (int s = 0; s < 4; s++) {
+            C.due("table(" + s + ", 1)", x.table(s, 1), 0);
+        }
     }
 
     private static void lot() {

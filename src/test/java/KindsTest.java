@@ -98,6 +98,9 @@ public final class KindsTest {
             C.due("rests(" + b[0] + ", " + b[1] + ", " + b[2] + ")", x.rests(b[0], b[1], b[2]), BAD);
         }
         C.due("rests(99, 99, 0)", x.rests(99, 99, 0), 2);
+        C.due("rests(1, 1, 0)", x.rests(1, 1, 0), 2);
+        C.due("rests(99, 1, 0)", x.rests(99, 1, 0), 1);
+        C.due("rests(1, 99, 1)", x.rests(1, 99, 1), 1);
     }
 
     private static void rates() {
@@ -129,6 +132,7 @@ public final class KindsTest {
         C.due("trace()", x.trace(), 0);
         C.due("rate(5, 0)", x.rate(5, 0), 4);
         C.due("trace()", x.trace(), 100001);
+        C.due("a weight of 1 is enough", x.rate(1, 0), 6);
     }
 
     private static void images() {

@@ -13,6 +13,7 @@ public final class OddsTest {
         callRefused();
         shared();
         swings();
+        longSwings();
         swingsRefused();
         C.end();
     }
@@ -32,11 +33,13 @@ public final class OddsTest {
         for (int[] b : bad) {
             C.due("odds bad", x.odds(b[0], b[1], b[2]), NO);
         }
-        // Lower numbers beyond an int.
+        x = Checks.village("house 1 0 0 0 1;house 0 0 1 0 1;house 1 0 0 0 1;");
+        C.due("two for sure", x.odds(0, 2, 0), 1);
+        C.due("two for sure", x.odds(0, 2, 1), 1);
+        C.due("three never", x.odds(0, 3, 0), 0);
+        // The greatest lower number; behind it 36 to the 6th ways, which an int would not hold.
         x = Checks.village("house 9 9 9 8 9;".repeat(6));
         C.due("35 to the 6th", x.odds(3, 6, 1), 1838265625L);
-        x = Checks.village("house 9 9 9 8 9;".repeat(5) + "house 1 9 9 9 9;");
-        C.due("35 to the 5th by 28, by 7", x.odds(0, 0, 1), 1);
         x = Checks.village(EVEN);
         C.due("one of six", x.odds(1, 1, 0), 4096 - 729);
         C.due("one of six", x.odds(1, 1, 1), 4096);
@@ -162,6 +165,14 @@ public final class OddsTest {
         C.due("what was brought is nothing to it", x.swings(1), 2);
         C.due("nothing is changed", x.count(4), 1);
         C.due("nothing is changed", x.house(0, 1), 9);
+    }
+
+    private static void longSwings() {
+        EachBrings x = Checks.village("house 5 8 0 0 1;house 0 7 8 2 1;house 6 7 0 9 1;house 0 0 5 7 1;"
+                + "house 8 3 7 9 1;memory 1;");
+        C.due("a long way: swings(0)", x.swings(0), 88);
+        C.due("a long way: swings(1)", x.swings(1), 2);
+        // No text is known to the writer by which both together are more than 200.
     }
 
     private static void swingsRefused() {

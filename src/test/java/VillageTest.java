@@ -10,6 +10,7 @@ public final class VillageTest {
         clearing();
         villageTold();
         readAnew();
+        nothingOfTheOldVillage();
         spacing();
         faultsOfOrder();
         faultsOfTokens();
@@ -143,6 +144,18 @@ public final class VillageTest {
         C.due("lot(1)", x.lot(1), 77);
     }
 
+    private static void nothingOfTheOldVillage() {
+        EachBrings x = Checks.village("house 9 9 9 9 9;".repeat(6) + "bar 0 0;pride 9;");
+        x.evening();
+        C.due("village()", x.village(), 0);
+        C.due("table(0, 1)", x.table(0, 1), 0);
+        C.due("evening()", x.evening(), 0);
+        C.due("shared()", x.shared(), 0);
+        C.due("all(1)", x.all(1), 1);
+        C.due("rests(1, 1, 0)", x.rests(1, 1, 0), 1);
+        C.due("eat(0)", x.eat(0), 0);
+    }
+
     private static void spacing() {
         C.due("no blanks", read("house1 2 3 4 5;bar0 1;law1;pride2;memory3;"), 5);
         C.due("blanks all over", read("   house  1   2 3 4   5  ;  bar 0   0 ;  "), 2);
@@ -178,6 +191,8 @@ public final class VillageTest {
         fault("no such word", "dog 1;", 0);
         fault("a word's beginning", "law 1; hous 1 1 1 1 1;", 7);
         fault("a word and more", "laws 1;", 0);
+        fault("another first letter", "paw 1;", 0);
+        fault("another last letter", "lax 1;", 0);
         fault("a long word", "memorymemorymemory 1;", 0);
         fault("a half word at the end", "law 1;pri", 6);
         fault("a word none of these in an item", "law x;", 4);
