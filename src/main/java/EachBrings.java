@@ -1040,7 +1040,7 @@ public final class EachBrings {
             b = of;
             prepare(weights);
             for (int many = 0; many <= SORTS; many++) {
-                if (tell(0, many, 0, weights)) {
+                if (tell(this, weights, 0, many, 0)) {
                     return many;
                 }
             }
@@ -1048,30 +1048,34 @@ public final class EachBrings {
         }
 
         /**
-         * Whether houses from h on can be told in so many more ways, and the first such row. No
-         * sort is told twice: left free, the second house would do no harm, so the row would not
-         * be of the fewest.
+         * Whether telling so many more houses, from h on, is likely enough; the first such row
+         * stays told. No sort is told twice: left free, the second house would do no harm, so the
+         * row would not be of the fewest.
          */
-        private boolean tell(int h, int more, int used, Weights weights) {
+        private static boolean tell(Chances row, Weights weights, int h, int more, int used) {
             if (h >= MOST_HOUSES) {
-                return more == 0 && waysToAll() * b >= waysInAll() * a;
+                return more == 0 && row.isLikely();
             }
             if (more > MOST_HOUSES - h) {
                 return false;
             }
-            decide(h, NOTHING);
-            if (tell(h + 1, more, used, weights)) {
+            row.decide(h, NOTHING);
+            if (tell(row, weights, h + 1, more, used)) {
                 return true;
             }
             for (int s = 0; s < SORTS && more > 0; s++) {
                 if (weights.of(h, s) > 0 && (used >> s & 1) == 0) {
-                    decide(h, s);
-                    if (tell(h + 1, more - 1, used | 1 << s, weights)) {
+                    row.decide(h, s);
+                    if (tell(row, weights, h + 1, more - 1, used | 1 << s)) {
                         return true;
                     }
                 }
             }
             return false;
+        }
+
+        private boolean isLikely() {
+            return waysToAll() * b >= waysInAll() * a;
         }
 
         private void prepare(Weights weights) {
