@@ -2,12 +2,23 @@
 final class Checks {
     private int wrong = 0;
     private int asked = 0;
+    private String sentence = "";
+    private int askedBefore = 0;
+
+    /** The document's sentence that the next answers hold to; one that nothing was asked of is a mistake. */
+    void sentence(String words) {
+        if (!sentence.isEmpty() && asked == askedBefore) {
+            throw new IllegalStateException("nothing was asked of: " + sentence);
+        }
+        sentence = words;
+        askedBefore = asked;
+    }
 
     void due(String call, long got, long want) {
         asked++;
         if (got != want) {
             wrong++;
-            System.out.println(call + " answered " + got + ", due is " + want);
+            System.out.println(heading() + call + " answered " + got + ", due is " + want);
         }
     }
 
@@ -15,8 +26,12 @@ final class Checks {
         asked++;
         if (!so) {
             wrong++;
-            System.out.println("does not hold: " + what);
+            System.out.println(heading() + "does not hold: " + what);
         }
+    }
+
+    private String heading() {
+        return sentence.isEmpty() ? "" : "[" + sentence + "] ";
     }
 
     boolean isClean() {
@@ -24,6 +39,7 @@ final class Checks {
     }
 
     void end() {
+        sentence("");
         System.out.println(asked + " answers, " + wrong + " wrong");
         if (wrong != 0 || asked == 0) {
             System.exit(1);

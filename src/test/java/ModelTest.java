@@ -114,7 +114,7 @@ public final class ModelTest {
     }
 
     private void ask(int pick) {
-        int h = upTo(Math.max(0, x.count(0) - 1));
+        int h = upTo(Math.max(0, model.count(0) - 1));
         int s = upTo(3);
         switch (pick) {
             case 0, 1 -> due("house", x.house(h, s), model.house(h, s), h, s);
