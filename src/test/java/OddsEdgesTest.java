@@ -95,10 +95,12 @@ public final class OddsEdgesTest {
         }
         C.sentence("ODDS: for sure, and never");
         for (int n = 0; n <= 6; n++) {
-            EachBrings x = Checks.village("house 0 0 7 0 1;".repeat(n));
-            for (int k = 0; k <= 6; k++) {
-                odds(x, 2, k, k <= n ? 1 : 0, 1);
-                odds(x, 3, k, k == 0 ? 1 : 0, 1);
+            for (int weight : new int[] {1, 7, 9}) {
+                EachBrings x = Checks.village(("house 0 0 " + weight + " 0 1;").repeat(n));
+                for (int k = 0; k <= 6; k++) {
+                    odds(x, 2, k, k <= n ? 1 : 0, 1);
+                    odds(x, 3, k, k == 0 ? 1 : 0, 1);
+                }
             }
         }
     }

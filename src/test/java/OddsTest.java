@@ -172,7 +172,6 @@ public final class OddsTest {
                 + "house 8 3 7 9 1;memory 1;");
         C.due("a long way: swings(0)", x.swings(0), 88);
         C.due("a long way: swings(1)", x.swings(1), 2);
-        // No text is known to the writer by which both together are more than 200.
     }
 
     private static void swingsRefused() {

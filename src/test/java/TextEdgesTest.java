@@ -278,6 +278,27 @@ public final class TextEdgesTest {
         C.due("the old house 1 brings nothing", x.evening(), 1);
         C.due("pride is gone: 1 spoon", x.count(2), 1);
         C.due("the old house 1 eats nothing", x.eat(1), 1);
+        C.sentence("Promise 4: THE TEXT tells all: of six houses that were nothing stays");
+        x = Checks.village("house 9 9 9 9 9;".repeat(6) + "bar 0 0;pride 9;");
+        Checks.type(x, "house 0 1 0 0 2;pride 9;");
+        C.due("village()", x.village(), 2);
+        C.due("evening()", x.evening(), 1);
+        C.due("shared()", x.shared(), 2);
+        C.due("eat(0)", x.eat(0), 2);
+        C.due("count(2)", x.count(2), 9);
+        C.due("rests(1, 2, 1)", x.rests(1, 2, 1), 1);
+        C.due("odds(0, 1, 0)", x.odds(0, 1, 0), 0);
+        C.sentence("Promise 4: THE TEXT tells all: an empty one leaves no house");
+        C.due("village()", x.village(), 0);
+        C.due("evening()", x.evening(), 0);
+        C.due("odds(1, 1, 0)", x.odds(1, 1, 0), 0);
+        C.due("rests(1, 2, 1)", x.rests(1, 2, 1), 0);
+        C.due("shared()", x.shared(), 0);
+        C.due("eat(0)", x.eat(0), 0);
+        x = Checks.village("house 9 0 0 0 9;");
+        C.due("village()", x.village(), 0);
+        C.due("evening()", x.evening(), 0);
+        C.due("odds(0, 1, 0)", x.odds(0, 1, 0), 0);
     }
 
     private static void readAnew() {
